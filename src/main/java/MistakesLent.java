@@ -62,6 +62,8 @@ public final class MistakesLent {
     private static final int NONE_OFTEN = 5;
     private static final int SEEDS = 65537;
     private static final int DECADE_WEEKS = 500;
+    /** Far above what all harms together cost. */
+    private static final int ANY_HARM = 1000000;
 
     private final byte[] tape = new byte[TAPE_BYTES];
     private int fed;
@@ -475,7 +477,7 @@ public final class MistakesLent {
         if (!has(PLAN, plan)) {
             return refuse(NO_SUCH);
         }
-        return tell(runner.bearsAll(museum.plans[plan], Integer.MAX_VALUE) ? 1 : 0);
+        return tell(runner.bearsAll(museum.plans[plan], ANY_HARM) ? 1 : 0);
     }
 
     public int made(int plan) {
@@ -1764,7 +1766,7 @@ public final class MistakesLent {
         private final int[] worths = new int[ROOM[ASKS]];
         /** What the asks from each on are worth at most. */
         private final int[] still = new int[ROOM[ASKS] + 1];
-        /** Slips and people, as bits, that are taken in each week. */
+        /** Slips and people, as bits, that are taken in each week; none when choose() is over. */
         private final int[] slipsIn = new int[MOST_WEEKS];
         private final int[] peopleIn = new int[MOST_WEEKS];
         private final int[] tried = new int[ROOM[ASKS]];
@@ -1785,10 +1787,6 @@ public final class MistakesLent {
             for (int ask = asks - 1; ask >= 0; ask--) {
                 worths[ask] = runner.worthOf(ask);
                 still[ask] = still[ask + 1] + Math.max(0, worths[ask]);
-            }
-            for (int week = 0; week < MOST_WEEKS; week++) {
-                slipsIn[week] = 0;
-                peopleIn[week] = 0;
             }
             total = -1;
             choose(runner.museum, 0, 0);

@@ -33,7 +33,7 @@ public final class FuzzTest {
         List<String> lines = new ArrayList<>();
         lines.add("museum weeks " + between(1, 3) + " breaks " + pick(List.of(0, 5, 30, 99)) + " fine " + roll(4) + " grown " + pick(List.of(0, 9, 20, 99)));
         int things = roll(4) == 0 ? 5 : between(1, 4);
-        int deeds = between(1, roll(4) == 0 ? 8 : 4);
+        int deeds = roll(4) == 0 ? between(5, 8) : between(1, 4);
         int plans = between(1, 4);
         int slips = roll(3) == 0 ? 7 : between(0, 7);
         int people = between(0, 4);
@@ -78,7 +78,7 @@ public final class FuzzTest {
         }
         if (people > 0 && slips > 0) {
             List<Integer> asked = new ArrayList<>();
-            for (int i = roll(8); i > 0; i--) {
+            for (int i = roll(3) == 0 ? 60 : roll(8); i > 0 && asked.size() < 7; i--) {
                 int ask = 10 * roll(people) + roll(slips);
                 if (!asked.contains(ask)) {
                     asked.add(ask);
@@ -193,7 +193,8 @@ public final class FuzzTest {
     }
 
     private static boolean feed(MistakesLent x, Oracle o, String text) {
-        int[] all = Check.numbers(text);
+        String behind = pick(List.of("", "7", "77777777777777777777", "aaaaaaaaaaaaaaaaaaaa", ";;;;;;;;;;;;;;;;;;;;"));
+        int[] all = Check.numbers(text + behind);
         for (int i = 0; i < all.length; i += 5) {
             int got = x.feed(all[i], all[i + 1], all[i + 2], all[i + 3], all[i + 4]);
             int want = o.feed(all[i], all[i + 1], all[i + 2], all[i + 3], all[i + 4]);
@@ -259,7 +260,7 @@ public final class FuzzTest {
     }
 
     public static void main(String[] args) throws Exception {
-        int rounds = args.length > 0 ? Integer.parseInt(args[0]) : 150;
+        int rounds = args.length > 0 ? Integer.parseInt(args[0]) : 60;
         for (Method method : MistakesLent.class.getDeclaredMethods()) {
             if (java.lang.reflect.Modifier.isPublic(method.getModifiers())) {
                 CALLS.add(method);
@@ -273,10 +274,12 @@ public final class FuzzTest {
             for (int j = 0; j < 20; j++) {
                 feed(x, o, spoilt(museum()));
             }
-            if (feed(x, o, museum())) {
-                askAll(x, o);
-                play(x, o, 200);
-                askAll(x, o);
+            for (int j = 0; j < 3; j++) {
+                if (feed(x, o, museum())) {
+                    askAll(x, o);
+                    play(x, o, 100);
+                    askAll(x, o);
+                }
             }
             feed(x, o, spoilt(museum()));
             play(x, o, 40);

@@ -141,6 +141,11 @@ public final class PromisesTest {
         told(x, "lend", x.lend(1, 0));
         told(x, "bring", x.bring(1, true), 5);
         told(x, "a museum without slips", Check.load(x, SMALL), 0);
+        Check.feed(x, SMALL + ";ends p 12345678");
+        told(x, "no byte behind the n-th counts", x.museum(SMALL.length() + 9), 0);
+        due("no byte behind the n-th counts: ends", x.whichNone(), 1);
+        Check.feed(x, SMALL + "dddddddd");
+        told(x, "nor a letter", x.museum(SMALL.length()), 0);
         due("no harm done", x.size(12), 0);
         due("no people", x.size(8), 0);
     }
@@ -201,6 +206,7 @@ public final class PromisesTest {
         "1 museum weeks 1 breaks ^100",
         "4 museum weeks 1 breaks 0 fine ^10",
         "1 museum weeks 1 breaks 0 fine 0 grown^",
+        "1 museum weeks 1 breaks 0 fine 0 grown ^;museum",
         "1 museum weeks 1 breaks 0 fine 0 grown 0 ^0",
         "1 museum weeks 1 breaks 0 fine 0 grown 0,^".replace(",^", "^,"),
         "6 museum weeks 1 breaks 0 fine 0 grown 0^",
@@ -215,6 +221,7 @@ public final class PromisesTest {
         "1 M;thing^",
         "1 M;thing ^7",
         "1 M;thing ^if 1",
+        "1 M;thing ^museum 1",
         "1 M;thing ^ends 1",
         "1 M;thing ^abcdefghi 1",
         "1 M;thing a ^b",
@@ -229,6 +236,7 @@ public final class PromisesTest {
         "2 M;T;harm ^c over 1",
         "2 M;T;D;harm ^up over 1",
         "1 M;T;harm ^plan",
+        "1 M;T;harm ^museum",
         "1 M;T;harm a ^above 1",
         "4 M;T;harm a over ^10 costs 1",
         "1 M;T;harm a over 1 ^cost 1",
@@ -271,6 +279,8 @@ public final class PromisesTest {
         "2 M;T;D;slip s for up ^often 1",
         "3 M;T;D;slip s for up ^up often 1",
         "1 M;T;D;slip s for up dn ^1",
+        "1 M;T;D;slip s for up dn ^aften 1",
+        "1 M;T;D;slip s for up dn ^often1".replace("often1", "oftem 1"),
         "4 M;T;D;slip s for up dn often ^0",
         "4 M;T;D;slip s for up dn often ^10",
         "5 M;T;D;slip s left up often 1;slip t left up often 1;slip u left up often 1;slip v left up often 1;slip w left up often 1;"
@@ -281,6 +291,7 @@ public final class PromisesTest {
         "2 M;T;D;plan p up;asks ^x",
         "2 M;T;D;plan p up;person x grown p;asks x ^x",
         "1 M;T;D;plan p up;slip s left up often 1;person x grown p;asks x s ^1",
+        "1 M;T;D;plan p up;slip s left up often 1;person x grown p;asks x s pays ^;thing a 1;",
         "4 M;T;D;plan p up;slip s left up often 1;person x grown p;asks x s pays 99;slip t left up often 1;asks x t pays 0;thing c ^10",
         "3 M;T;D;plan p up;slip s left up often 1;person x grown p;asks x s pays 9;asks x ^s pays 1",
         "0 M;T;D;plan p up;slip s left up often 1;person x grown p;person y grown p;asks x s pays 9;asks y s pays 1",
@@ -376,6 +387,11 @@ public final class PromisesTest {
         refused(x, "level of no plan", x.level(4, 2, -1, 0), 1);
         refused(x, "level with no slip", x.level(3, 5, 9, 0), 1);
         refused(x, "level of no thing", x.level(3, 2, 9, 2), 1);
+        MistakesLent t = Check.loaded("museum weeks 1 breaks 0 fine 0 grown 0;thing a 0;deed x takes a 2;deed y adds a 1;plan p x,y;"
+            + "slip tx turned x often 1;slip ey early y often 1;slip ly left y often 1");
+        told(t, "a turned step changes places", t.end(0, 0, 1, 0), 3);
+        told(t, "what was early is turned", t.end(0, 1, 0, 0), 3);
+        told(t, "a turned step stays when another is left out", t.end(0, 0, 2, 0), 2);
         MistakesLent y = Check.loaded("museum weeks 1 breaks 0 fine 0 grown 0;thing a 8;deed up adds a 9;deed dn takes a 9;plan p up;plan q dn;"
             + "slip tu turned up often 1");
         told(y, "not above 9", y.end(0, -2, -2, 0), 9);
@@ -559,6 +575,16 @@ public final class PromisesTest {
             + "harm a over 1 costs 3;plan p up;slip s twice up often 1");
         told(u, "not by more harm without", u.made(0), 1);
         told(u, "not by more harm without: where", u.madeAt(0, 0), 12);
+        String last = "museum weeks 1 breaks 5 fine 0 grown 0;thing a 0;thing b 0;deed up adds a 1;deed jump adds a 3;deed x adds b 1;"
+            + "deed y takes a 9 if b over 0;harm a over 1 costs 3;plan p up;slip s for up jump often 1";
+        MistakesLent v = Check.loaded(last);
+        told(v, "the first, asked for at once", v.madeAt(0, 0), 2);
+        told(v, "the second behind all", v.madeAt(0, 1), 23);
+        told(v, "another museum", Check.load(v, last.replace("deed y takes a 9 if b over 0;", "")), 1);
+        told(v, "made anew, not by deeds of the one before", v.made(0), -2);
+        MistakesLent w = Check.loaded(jumps.replace("jump adds a 3", "jump adds a 9") + ";deed e adds a 1;deed f adds a 1;deed g adds a 1;"
+            + "deed h adds a 1;deed i adds a 1");
+        told(w, "eight deeds", w.made(0), -2);
     }
 
     private static void p28to29() {
@@ -620,6 +646,11 @@ public final class PromisesTest {
         refused(n, "lending without a museum", n.lending(), 1);
         told(n, "lending without asks", Check.load(n, SMALL), 0);
         told(n, "lending without asks", n.lending(), 0);
+        MistakesLent a = Check.loaded(start + "asks h s pays 3;asks i s pays 4;asks i t pays 2;asks h t pays 1");
+        told(a, "lending", a.lending(), 5);
+        told(a, "another museum", Check.load(a, start + "asks h s pays 2"), 2);
+        told(a, "lending anew", a.lending(), 2);
+        told(a, "weekOf anew", a.weekOf(0), 0);
         MistakesLent e = Check.loaded(LADDER + ";person k child p;person g child q;asks k tu pays 6;asks g tw pays 6");
         told(e, "as much harm as grown", e.worth(0), 6 + 3 * 4);
         told(e, "more harm than grown", e.worth(1), -2);
