@@ -280,7 +280,9 @@ public final class PromisesTest {
         "3 M;T;D;slip s for up ^up often 1",
         "1 M;T;D;slip s for up dn ^1",
         "1 M;T;D;slip s for up dn ^aften 1",
-        "1 M;T;D;slip s for up dn ^often1".replace("often1", "oftem 1"),
+        "1 M;T;D;slip s for up dn ^oftem 1",
+        "1 M;T;D;slip s for up dn ^oftenx 1",
+        "1 M;T;D;slip s for up dn ^ofte 1",
         "4 M;T;D;slip s for up dn often ^0",
         "4 M;T;D;slip s for up dn often ^10",
         "5 M;T;D;slip s left up often 1;slip t left up often 1;slip u left up often 1;slip v left up often 1;slip w left up often 1;"
@@ -575,6 +577,14 @@ public final class PromisesTest {
             + "harm a over 1 costs 3;plan p up;slip s twice up often 1");
         told(u, "not by more harm without", u.made(0), 1);
         told(u, "not by more harm without: where", u.madeAt(0, 0), 12);
+        MistakesLent f = Check.loaded(jumps.replace("deed up adds a 1;deed dn takes a 1;", "deed dn takes a 1;deed up adds a 1;"));
+        told(f, "the first of two by the first deed", f.madeAt(0, 0), 10);
+        told(f, "the second of two by the first deed", f.madeAt(0, 1), 10);
+        MistakesLent g = Check.loaded("museum weeks 1 breaks 0 fine 0 grown 0;thing a 0;thing b 0;deed x adds b 1;deed up adds a 1 if b under 2;"
+            + "harm a over 1 costs 3;plan p up;slip s twice up often 1");
+        told(g, "both ahead of all", g.made(0), 2);
+        told(g, "the first ahead of all", g.madeAt(0, 0), 0);
+        told(g, "the second ahead of all", g.madeAt(0, 1), 0);
         String last = "museum weeks 1 breaks 5 fine 0 grown 0;thing a 0;thing b 0;deed up adds a 1;deed jump adds a 3;deed x adds b 1;"
             + "deed y takes a 9 if b over 0;harm a over 1 costs 3;plan p up;slip s for up jump often 1";
         MistakesLent v = Check.loaded(last);
@@ -795,6 +805,13 @@ public final class PromisesTest {
         told(o, "overdue", o.overdue(), 2);
         told(o, "undo", o.undo());
         told(o, "not overdue", o.overdue(), 0);
+        told(o, "bring", o.bring(1, false), 0);
+        told(o, "lend later", o.lend(1, 0));
+        told(o, "back to when it was lent first", o.back(0));
+        for (int i = 0; i < 3; i++) {
+            o.week();
+        }
+        told(o, "overdue by that week", o.overdue(), 2);
     }
 
     private static void p45to47() {
