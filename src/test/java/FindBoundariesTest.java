@@ -147,6 +147,11 @@ public final class FindBoundariesTest {
             + "slip fu for x u often 1;slip fv for x v often 1;slip fw for x w often 1", 0, 10, 2);
         seen("fewer left by the second", "thing a 5;thing b 5;deed x adds a 1,adds b 1;deed u adds a 1,adds b 2;deed v adds a 1,adds b 1;deed w adds a 2,adds b 3;plan p x;"
             + "slip fu for x u often 1;slip fv for x v often 1;slip fw for x w often 1", 0, 11, 2);
+        seen("levels of 9 count", "thing a 9;thing b 9;deed x adds a 1;deed y adds b 1;plan p x,y;slip l left x often 1;slip m left y often 1", 0, 0, 3);
+        String five = "thing a 1;thing b 3;thing c 5;thing d 7;thing e 9;deed x adds a 1,adds e 1;deed y takes e 3,adds d 1;deed z takes e 1,adds b 2;";
+        seen("the fifth thing of five", five + "plan p x;slip f for x y often 1;slip g for x z often 1", 0, 14, 1);
+        seen("the second thing, as the fifth stays at 9", five.replace("takes e 3", "adds e 3").replace("takes e 1", "adds e 1") + "plan p x;slip g for x z often 1", 0, 10, 1);
+        seen("the fourth thing", five.replace("adds a 1,", "").replace("takes e 3", "adds e 3") + "plan p x;slip f for x y often 1", 0, 13, 1);
         String seven = "";
         for (int i = 1; i <= 7; i++) {
             seven += "deed d" + (char) ('a' + i) + " adds a " + i + ";";

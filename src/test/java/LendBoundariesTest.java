@@ -155,6 +155,12 @@ public final class LendBoundariesTest {
         told(n, "none for it", n.lending(), 297);
         Check.told(n, "undo", n.undo());
         told(n, "again", n.lending(), 396);
+        MistakesLent y = Check.loaded(museum(1, "asks i a pays 9;asks j a pays 9;asks k a pays 9;asks l a pays 9;asks i b pays 9;asks j b pays 9;asks k b pays 9"));
+        told(y, "of seven asks", y.lending(), 18);
+        told(y, "of two of another museum", Check.load(y, museum(1, "asks i a pays 5;asks i b pays 3")), 7);
+        told(y, "of two of another museum", y.lending(), 5);
+        told(y, "the one", y.weekOf(0), 0);
+        told(y, "not the other", y.weekOf(1), -2);
         sentence("32", "The week of an ask by it; -2 none. NONE: 1.");
         told(n, "a cleaned one", n.weekOf(0), -2);
         told(n, "another for it", n.weekOf(4), 0);

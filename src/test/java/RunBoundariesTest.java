@@ -261,6 +261,12 @@ public final class RunBoundariesTest {
         told(o, "the other turned, and left out", o.end(0, 2, 3, 0), 3);
         told(o, "the one turned, the other left out", o.end(0, 0, 3, 0), 1);
         told(o, "early twice: nothing more", o.end(0, 1, 1, 0), 0);
+        MistakesLent r = loaded(M + "thing a 5;thing b 5;deed x adds a 1;deed y adds b 1;deed z adds b 2;plan p x,y,z;slip t turned y often 1;slip w twice x often 1;slip l left x often 1;slip u turned z often 1");
+        told(r, "turned, another done twice ahead of it", r.end(0, 0, 1, 1), 6);
+        told(r, "the last turned, another done twice ahead of it", r.end(0, 3, 1, 1), 4);
+        told(r, "turned, another left out ahead of it", r.end(0, 0, 2, 1), 6);
+        told(r, "the last turned, another left out ahead of it", r.end(0, 3, 2, 1), 4);
+        told(r, "both turned", r.end(0, 0, 3, 1), 2);
     }
 
     private static void goodAndCancel() {
@@ -486,5 +492,7 @@ public final class RunBoundariesTest {
         MistakesLent b = loaded(start + "harm a over 5 costs 3;slip f for x y often 1;slip w twice y often 1");
         told(b, "both must fit the plan as told", b.worstTwo(0), 0);
         Check.oneOf(b, "plan", 2, plan -> b.worstTwo(plan));
+        MistakesLent p = loaded(start + "harm a under 6 costs 9;slip w twice x often 1");
+        told(p, "of slips that are told alone", p.worstTwo(0), 0);
     }
 }

@@ -96,6 +96,12 @@ public final class TextBoundariesTest {
             full += " ";
         }
         right(full + "4");
+        String word = SMALL.substring(0, SMALL.length() - 1);
+        while (word.length() < 999) {
+            word += " ";
+        }
+        right(word + "d");
+        fault(2, word + "^e");
         sentence("2", "Twenty bytes come behind THE TAPE, of each number the highest first: how many it has");
         MistakesLent x = new MistakesLent();
         Check.due("feed", x.feed('m' << 24 | 'u' << 16 | 's' << 8 | 'e', 'u' << 24 | 'm' << 16 | ' ' << 8 | 255, -1, Integer.MIN_VALUE, 0), 20);
@@ -222,6 +228,23 @@ public final class TextBoundariesTest {
         fault(1, M + "^7");
         fault(1, M + "^thin a 1");
         fault(1, M + "^things a 1");
+        keywords();
+    }
+
+    /** Each word of the lines, a letter more, a letter less, another letter at either end. */
+    private static void keywords() {
+        for (int[] token : tokensOf(ALL)) {
+            String word = ALL.substring(token[0], token[1]);
+            String kept = "museum weeks breaks fine grown thing deed adds takes over under harm costs plan slip left for often person donor asks pays ends";
+            if (!(" " + kept + " ").contains(" " + word + " ")) {
+                continue;
+            }
+            String shorter = word.substring(0, word.length() - 1);
+            String[] others = {word + "x", "x" + word, shorter, word.substring(1), shorter + "x", "x" + word.substring(1), word + word};
+            for (String other : others) {
+                Check.fault(1, ALL.substring(0, token[0]) + other + ALL.substring(token[1]), token[0]);
+            }
+        }
     }
 
     // ---- the bounds of each line
@@ -377,6 +400,7 @@ public final class TextBoundariesTest {
         bounds(M + T + D + P + S + H + "asks h s pays ", "", 0, 99);
         fault(1, M + T + D + P + S + H + "asks h s ^9");
         fault(1, M + T + D + P + S + H + "asks h s ^costs 9");
+        fault(1, M + T + D + P + S + H + "asks h s pays ^;museum");
         fault(3, M + T + D + P + S + H + "asks h s pays 1;asks h ^s pays 2");
         right(M + T + D + P + S + H + "asks h s pays 1;asks i s pays 1;asks h t pays 1;asks i t pays 1");
         String seven = M + T + D + P + S + H + "person j donor p;person k donor p;asks h s pays 1;asks i s pays 1;asks j s pays 1;"
@@ -654,12 +678,38 @@ public final class TextBoundariesTest {
         Check.feed(x, SMALL + ";slip s left d often 12");
         Check.told(x, "a WHOLE that is cut", x.museum(SMALL.length() + 22), 1);
         Check.due("how often", x.slip(0, 3), 1);
+        Check.feed(x, SMALL + "ddd,d");
+        Check.told(x, "a WORD that is cut", x.museum(SMALL.length()), 0);
+        Check.refused(x, "its plan has one step", x.step(0, 1), 1);
         String whole = SMALL.replace("p d", "p d,d") + ";slip s left d often 9";
         while (whole.length() % 20 != 0) {
             whole += " ";
         }
         Check.told(x, "all bytes", Check.load(x, whole), 1);
         Check.due("its plan", x.step(0, 1), 0);
+        MistakesLent a = new MistakesLent();
+        String rich = SMALL.replace("p d", "p d,d") + ";harm a over 0 costs 9;slip s twice d often 9;slip t left d often 8;person h child p;asks h s pays 9;ends p 1";
+        for (int i = 0; i < 3; i++) {
+            Check.told(a, "one with much", Check.load(a, rich), 2);
+            Check.told(a, "its lending", a.lending(), 0);
+            Check.told(a, "what it makes", a.made(0), 0);
+        }
+        Check.told(a, "one with little", Check.load(a, SMALL + ";ends p 2"), 0);
+        int[] little = {1, 0, 0, 0, 1, 1, 1, 0, 0, 0, 0};
+        for (int what = 0; what < little.length; what++) {
+            Check.due("size " + what, a.size(what), little[what]);
+        }
+        Check.told(a, "nothing of the one before: likeliest", a.likeliest(), -3);
+        Check.told(a, "which", a.which(), 0);
+        Check.told(a, "harm", a.harm(0, -2, -2), 0);
+        Check.told(a, "worstTwo", a.worstTwo(0), 0);
+        Check.told(a, "extreme", a.extreme(0, true), -2);
+        Check.told(a, "lookMost", a.lookMost(0), 1);
+        Check.told(a, "lending", a.lending(), 0);
+        Check.refused(a, "worth", a.worth(0), 1);
+        Check.refused(a, "its second step", a.step(0, 1), 1);
+        Check.told(a, "one without ends", Check.load(a, SMALL), 0);
+        Check.refused(a, "which", a.which(), 6);
         sentence("3", "(nothing lent, nothing cleaned, week 0, no HARM done; nothing to undo, no IMAGES): how many SLIPS.");
         MistakesLent y = used();
         Check.due("harm done", y.size(12), 7);
