@@ -151,6 +151,35 @@ public final class FuzzTest {
         return roll(2) == 0 ? joined : joined.replace(" ; ", ";").replace(" , ", ",");
     }
 
+    private static final String SIGNS = "abmz 0189;,  A~`{/:+-\t\u0000\u007f\u0080\u00a0\u00ff";
+
+    /** A text with a few bytes put in, left out or changed, so that tokens run together or come apart. */
+    static String smudged(String text) {
+        StringBuilder bytes = new StringBuilder(text);
+        for (int i = between(1, 3); i > 0 && bytes.length() > 1; i--) {
+            int at = roll(bytes.length());
+            char sign = SIGNS.charAt(roll(SIGNS.length()));
+            switch (roll(5)) {
+                case 0:
+                    bytes.deleteCharAt(at);
+                    break;
+                case 1:
+                    bytes.setCharAt(at, sign);
+                    break;
+                case 2:
+                    bytes.insert(at, "  ".substring(roll(2)));
+                    break;
+                case 3:
+                    bytes.setLength(at);
+                    break;
+                default:
+                    bytes.insert(at, sign);
+                    break;
+            }
+        }
+        return bytes.toString();
+    }
+
     private static void addLineAgain(List<String> words) {
         String[] lines = String.join(" ", words).split(";");
         String line = lines[roll(lines.length)].trim();
@@ -273,6 +302,7 @@ public final class FuzzTest {
             play(x, o, 20);
             for (int j = 0; j < 20; j++) {
                 feed(x, o, spoilt(museum()));
+                feed(x, o, smudged(museum()));
             }
             for (int j = 0; j < 3; j++) {
                 if (feed(x, o, museum())) {

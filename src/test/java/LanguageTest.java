@@ -1,3 +1,5 @@
+import java.io.PrintWriter;
+import java.io.StringWriter;
 import java.lang.reflect.Constructor;
 import java.lang.reflect.Field;
 import java.lang.reflect.Method;
@@ -8,9 +10,12 @@ import java.nio.file.Path;
 import java.util.ArrayList;
 import java.util.Arrays;
 import java.util.List;
+import java.util.Map;
+import java.util.TreeMap;
 import java.util.TreeSet;
 import java.util.regex.Matcher;
 import java.util.regex.Pattern;
+import java.util.spi.ToolProvider;
 
 /** The face, what of LANGUAGE.md can be seen from outside, and how much a run makes. */
 public final class LanguageTest {
@@ -106,6 +111,63 @@ public final class LanguageTest {
         }
     }
 
+    /** Which methods each method calls, the library's too, as javap tells them. */
+    private static Map<String, TreeSet<String>> calls(ToolProvider javap) {
+        List<String> given = new ArrayList<>(List.of("-c", "-p", "-cp", System.getProperty("java.class.path"), "MistakesLent"));
+        for (Class<?> inner : MistakesLent.class.getDeclaredClasses()) {
+            given.add(inner.getName());
+        }
+        StringWriter text = new StringWriter();
+        PrintWriter out = new PrintWriter(text);
+        must("javap", javap.run(out, out, given.toArray(new String[0])) == 0);
+        Map<String, TreeSet<String>> all = new TreeMap<>();
+        String owner = "";
+        String method = "";
+        for (String line : text.toString().split("\\R")) {
+            Matcher head = Pattern.compile("^(?:\\w+ )*class (\\S+).*\\{$").matcher(line);
+            Matcher name = Pattern.compile("^  \\S.*?([\\w$]+)\\(.*\\).*;$").matcher(line);
+            Matcher call = Pattern.compile("invoke\\w+.*// (?:Interface)?Method (?:(\\S+)\\.)?\"?([\\w<>]+)\"?:").matcher(line);
+            if (head.find()) {
+                owner = head.group(1);
+            } else if (name.find()) {
+                method = owner + "." + (name.group(1).equals(owner) ? "<init>" : name.group(1));
+                all.putIfAbsent(method, new TreeSet<>());
+            } else if (call.find()) {
+                all.get(method).add((call.group(1) == null ? owner : call.group(1)) + "." + call.group(2));
+            }
+        }
+        return all;
+    }
+
+    /** How many calls stand open below this one and with it; what calls itself in a circle is told as a fault, but for choose. */
+    private static int depth(Map<String, TreeSet<String>> calls, String method, List<String> open) {
+        if (open.contains(method)) {
+            must("calls itself: " + method, method.equals("MistakesLent$Lending.choose"));
+            return 0;
+        }
+        open.add(method);
+        int deepest = 0;
+        for (String next : calls.getOrDefault(method, new TreeSet<>())) {
+            deepest = Math.max(deepest, depth(calls, next, open));
+        }
+        open.remove(open.size() - 1);
+        return deepest + 1;
+    }
+
+    private static void deep() {
+        ToolProvider javap = ToolProvider.findFirst("javap").orElse(null);
+        if (javap == null) {
+            System.out.println("javap isn't here: how deep calls go can't be seen");
+            return;
+        }
+        Map<String, TreeSet<String>> calls = calls(javap);
+        must("the calls are seen", calls.containsKey("MistakesLent.museum") && calls.get("MistakesLent.museum").contains("MistakesLent$Reader.read"));
+        for (String method : calls.keySet()) {
+            int deepest = depth(calls, method, new ArrayList<>());
+            must(method + " goes at most eight deep: " + deepest, deepest <= 8);
+        }
+    }
+
     /** 512 of the dearest calls make nothing that counts: the rows are made with the object. */
     private static void room() {
         com.sun.management.ThreadMXBean bean = (com.sun.management.ThreadMXBean) java.lang.management.ManagementFactory.getThreadMXBean();
@@ -144,6 +206,7 @@ public final class LanguageTest {
     public static void main(String[] args) throws Exception {
         face();
         source();
+        deep();
         room();
         Check.finish();
     }
